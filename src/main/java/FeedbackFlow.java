@@ -453,7 +453,7 @@ public final class FeedbackFlow {
     }
 
     private static final class Graph {
-        private static final int NEVER = Integer.MAX_VALUE;
+        private static final int NEVER = 0x7fffffff;
         /**
          * A way that comes to a vertex again is of use only if its counters are less then, and
          * only an exit and an entry after it can make them so: once by way of depth 0 and once
