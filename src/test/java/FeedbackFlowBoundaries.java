@@ -783,7 +783,7 @@ public final class FeedbackFlowBoundaries {
             fire 1 = WAIT
             fire 0 = 0; fire 0 = 0
             """);
-        sentence("from a vertex with t all edges that lead from it, whatever its work", """
+        sentence("from a vertex with t all edges that lead from it: whatever its work", """
             graph input, keep 0, step 0, sum 0, sum 0 | 0>1 0>2 0>3 1>3 2>4 2>3
             start = 0
             put 0 1 = 0; close 0 = 0
